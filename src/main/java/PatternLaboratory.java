@@ -848,6 +848,8 @@ public final class PatternLaboratory {
         private final int[] times = new int[VARIABLES];
         /** How many variables from a position on, one after the other, stand in the pattern only once. */
         private final int[] singles = new int[LONGEST_WORD];
+        /** The longest images that the search for the first occurrence needs. */
+        private final int[] longest = new int[VARIABLES];
         private final int[] starts = new int[VARIABLES];
         /** 0 for an image whose length is open. */
         private final int[] lengths = new int[VARIABLES];
@@ -861,6 +863,22 @@ public final class PatternLaboratory {
             for (int at = pattern.size - 1; at >= 0; at--) {
                 run = times[pattern.get(at)] == 1 ? run + 1 : 0;
                 singles[at] = run;
+            }
+            limitLengths();
+        }
+
+        /**
+         * Behind each place of some variables stands an image that is used once, or nothing. These need one letter: what
+         * they leave of more letters can be taken by the images behind them, or by none, and the lengths are smaller so.
+         */
+        private void limitLengths() {
+            for (int variable = 0; variable < VARIABLES; variable++) {
+                longest[variable] = 1;
+            }
+            for (int at = 0; at + 1 < pattern.size; at++) {
+                if (singles[at + 1] == 0) {
+                    longest[pattern.get(at)] = LONGEST_WORD;
+                }
             }
         }
 
@@ -911,23 +929,16 @@ public final class PatternLaboratory {
                 return repeats(variable, from) && fits(at + 1, from + lengths[variable], slack);
             }
             starts[variable] = from;
-            int step = times[variable];
             int left = slack;
-            // A longer image would be tried in vain: the next image can take its other letters, or nothing comes behind.
-            int longest = isShort(at) ? 1 : LONGEST_WORD;
-            for (int length = 1; length <= longest && left >= 0; length++) {
+            for (int length = 1; length <= longest[variable] && left >= 0; length++) {
                 lengths[variable] = length;
                 if (fits(at + 1, from + length, left)) {
                     return true;
                 }
-                left -= step;
+                left -= times[variable];
             }
             lengths[variable] = 0;
             return false;
-        }
-
-        private boolean isShort(int at) {
-            return singles[at] > 1 || (singles[at] == 1 && at + 1 == pattern.size);
         }
 
         private int countFrom(int at, int from, int slack) {

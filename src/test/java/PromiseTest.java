@@ -183,7 +183,7 @@ public final class PromiseTest {
         due("Zimin 3 in 3", true, () -> make("0102010", "").occursInZimin(3));
         due("Zimin 4 in 3", false, () -> make("010201030102010", "").occursInZimin(3));
         due("Zimin 4 in 4", true, () -> make("010201030102010", "").occursInZimin(4));
-        due("0 4 1 4 2 in 4", true, () -> make("04142", "").occursInZimin(4));
+        due("04142 in 4", true, () -> make("04142", "").occursInZimin(4));
     }
 
     private static void changes() {
@@ -337,9 +337,9 @@ public final class PromiseTest {
         promise = 22;
         due("greatestExponent() of " + word, (double) length / period, x::greatestExponent);
         promise = 23;
-        due("strongestFactor(0) of " + word, start, () -> x.strongestFactor(0));
-        due("strongestFactor(1) of " + word, length, () -> x.strongestFactor(1));
-        due("strongestFactor(2) of " + word, period, () -> x.strongestFactor(2));
+        due("strongestFactor(0) of " + word, start, () -> make(4, "", word).strongestFactor(0));
+        due("strongestFactor(1) of " + word, length, () -> make(4, "", word).strongestFactor(1));
+        due("strongestFactor(2) of " + word, period, () -> make(4, "", word).strongestFactor(2));
     }
 
     private static void exponents() {
@@ -425,6 +425,7 @@ public final class PromiseTest {
         due("findOccurrence() of 00", 2, x::findOccurrence);
         due("image 0", "12", () -> image(x, 0));
         due("image 3 is forgotten", "", () -> image(x, 3));
+        due("occurrenceCount() after that", 1, x::occurrenceCount);
         write(x, "000");
         due("findOccurrence() of 000", NONE, x::findOccurrence);
         due("image 0 after a throw", "12", () -> image(x, 0));
@@ -466,6 +467,11 @@ public final class PromiseTest {
         due("right 3, left 0", ARGUMENT, () -> x.areConnected(3, 0));
         due("right -1, left 0", ARGUMENT, () -> x.areConnected(-1, 0));
         due("right 0, left 32", ARGUMENT, () -> x.areConnected(0, 32));
+        due("a chain over the left side of 0", true, () -> make("102023", "").areConnected(1, 3));
+        due("a chain over the right side of 0", true, () -> make("010321", "").areConnected(2, 3));
+        due("a long chain", true, () -> make("01212343", "").areConnected(4, 1));
+        due("no chain, right 0", false, () -> make("01212343", "").areConnected(0, 2));
+        due("no chain, right 1", false, () -> make("01212343", "").areConnected(1, 4));
         PatternLaboratory y = make("010", "");
         due("right 0, left 0 of 010", false, () -> y.areConnected(0, 0));
         due("right 0, left 1 of 010", true, () -> y.areConnected(0, 1));
@@ -486,6 +492,7 @@ public final class PromiseTest {
         due("isFree(1) of 00", false, () -> make("00", "").isFree(1));
         promise = 31;
         due("freeSetCount() of nothing", 0, () -> make("", "").freeSetCount());
+        due("freeSetCount() of 0", 1, () -> make("0", "").freeSetCount());
         due("freeSetCount() of 00", 0, () -> make("00", "").freeSetCount());
         due("freeSetCount() of 010", 2, y::freeSetCount);
         due("freeSetCount() of 0102010", 4, () -> make("0102010", "").freeSetCount());
@@ -493,7 +500,10 @@ public final class PromiseTest {
         due("free sets of 010", "1,2", () -> freeSets(y));
         due("free sets of 0102010", "1,2,4,6", () -> freeSets(make("0102010", "")));
         due("free sets of 4 2", "4,16", () -> freeSets(make("42", "")));
-        due("free sets of 01 23 4", "1,2,4,5,8,9,10,16,17,18,20,21", () -> freeSets(make("01234", "")));
+        due("free sets of 01234", "1,2,4,5,8,9,10,16,17,18,20,21", () -> freeSets(make("01234", "")));
+        due("free sets of 3", "8", () -> freeSets(make("3", "")));
+        due("freeSet(0) of 010 alone", 1, () -> make("010", "").freeSet(0));
+        due("freeSet(0) of 001 alone", 2, () -> make("001", "").freeSet(0));
         due("freeSet(2)", INDEX, () -> y.freeSet(2));
         due("freeSet(-1)", INDEX, () -> y.freeSet(-1));
         due("freeSet(MIN)", INDEX, () -> y.freeSet(Integer.MIN_VALUE));
@@ -567,6 +577,8 @@ public final class PromiseTest {
         due("extend(24)", 35, () -> z.extend(24));
         due("word", "001001010010011001001010", () -> word(z));
         due("010 with three letters", NONE, () -> make(3, "010", "").extend(24));
+        due("1500 trials", 1500, () -> make("01012131", "").extend(24));
+        due("1501 trials", UNSUPPORTED, () -> make("00010203", "").extend(23));
         PatternLaboratory deep = make(4, "010", "00");
         due("given up", UNSUPPORTED, () -> make(4, "010", "").extend(24));
         due("extend(24) of 00", NONE, () -> deep.extend(24));
@@ -717,6 +729,8 @@ public final class PromiseTest {
         due("morphism", "0,1,2", () -> morphism(x, 3));
         due("findMorphism(3, 2) is too far", UNSUPPORTED, () -> x.findMorphism(3, 2));
         due("morphism after a throw", "0,1,2", () -> morphism(x, 3));
+        due("findMorphism(2, 1)", 92, () -> x.findMorphism(2, 1));
+        due("morphism", "01,01,01", () -> morphism(x, 3));
         PatternLaboratory y = make("00", "");
         due("findMorphism(2, 1) of 00", 6, () -> y.findMorphism(2, 1));
         due("morphism", "01,01", () -> morphism(y, 2));
