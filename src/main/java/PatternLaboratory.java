@@ -868,8 +868,8 @@ public final class PatternLaboratory {
         }
 
         /**
-         * Behind each place of some variables stands an image that is used once, or nothing. These need one letter: what
-         * they leave of more letters can be taken by the images behind them, or by none, and the lengths are smaller so.
+         * A variable that is always followed by a variable that stands once, or by nothing, needs one letter in the
+         * first occurrence: if it had more, the images behind it could take them, and that occurrence comes earlier.
          */
         private void limitLengths() {
             for (int variable = 0; variable < VARIABLES; variable++) {
@@ -888,7 +888,7 @@ public final class PatternLaboratory {
 
         /** The start of the first occurrence, whose images stand in starts and lengths then; -1 if there is none. */
         private int firstStart() {
-            // An image that is used once can be made longer to the left: then there is an occurrence from 0 on, or none.
+            // A first image that is used once can be made longer to the left: there is an occurrence at 0, or none.
             int last = singles[0] > 0 ? 0 : text.size - pattern.size;
             for (int start = 0; start <= last; start++) {
                 if (standsAt(start)) {
