@@ -124,14 +124,12 @@ public final class PatternLaboratory {
     }
 
     public int useShelf(int shelf) throws IndexOutOfBoundsException, IllegalStateException {
-        requireShelf(shelf);
         requireFilled(shelf);
         desk.pattern.become(shelves[shelf]);
         return desk.pattern.size;
     }
 
     public boolean isIsomorphic(int shelf) throws IndexOutOfBoundsException, IllegalStateException {
-        requireShelf(shelf);
         requireFilled(shelf);
         draft.becomeCanonical(desk.pattern);
         result.becomeCanonical(shelves[shelf]);
@@ -139,7 +137,6 @@ public final class PatternLaboratory {
     }
 
     public boolean contains(int shelf) throws IndexOutOfBoundsException, IllegalStateException {
-        requireShelf(shelf);
         requireFilled(shelf);
         if (shelves[shelf].size == 0) {
             throw new IllegalStateException("the shelf holds the empty pattern");
@@ -267,7 +264,7 @@ public final class PatternLaboratory {
 
     public boolean areConnected(int right, int left) throws IllegalArgumentException {
         int all = desk.pattern.members();
-        if (!isVariable(right) || !isVariable(left) || !holds(all, right) || !holds(all, left)) {
+        if (!holds(all, right) || !holds(all, left)) {
             throw new IllegalArgumentException("the pattern does not have this variable");
         }
         reducer.link(desk.pattern, all);
@@ -489,7 +486,8 @@ public final class PatternLaboratory {
     }
 
     private static boolean holds(int set, int variable) {
-        return (set & (1 << variable)) != 0;
+        // A shift takes its distance modulo 32: without the first test, 32 would stand for variable 0.
+        return isVariable(variable) && (set & (1 << variable)) != 0;
     }
 
     private static void requireZimin(int number) {
@@ -505,6 +503,7 @@ public final class PatternLaboratory {
     }
 
     private void requireFilled(int shelf) {
+        requireShelf(shelf);
         if (!isFilled[shelf]) {
             throw new IllegalStateException("the shelf is empty");
         }
@@ -732,10 +731,11 @@ public final class PatternLaboratory {
             return count;
         }
 
+        /** The set of the variables in the row. */
         private int members() {
             int set = 0;
             for (int i = 0; i < size; i++) {
-                set |= 1 << items[i];
+                set |= isVariable(items[i]) ? 1 << items[i] : 0;
             }
             return set;
         }
@@ -861,7 +861,7 @@ public final class PatternLaboratory {
             }
             int run = 0;
             for (int at = pattern.size - 1; at >= 0; at--) {
-                run = times[pattern.get(at)] == 1 ? run + 1 : 0;
+                run = times[variableAt(at)] == 1 ? run + 1 : 0;
                 singles[at] = run;
             }
             limitLengths();
@@ -877,13 +877,19 @@ public final class PatternLaboratory {
             }
             for (int at = 0; at + 1 < pattern.size; at++) {
                 if (singles[at + 1] == 0) {
-                    longest[pattern.get(at)] = LONGEST_WORD;
+                    longest[variableAt(at)] = LONGEST_WORD;
                 }
             }
         }
 
         private void setText(Row newText) {
             text.become(newText);
+        }
+
+        /** What stands in the pattern is an index of several rows here, and is looked at before it is used as one. */
+        private int variableAt(int at) {
+            int variable = pattern.get(at);
+            return isVariable(variable) ? variable : 0;
         }
 
         /** The start of the first occurrence, whose images stand in starts and lengths then; -1 if there is none. */
@@ -924,7 +930,7 @@ public final class PatternLaboratory {
             if (at >= pattern.size) {
                 return true;
             }
-            int variable = pattern.get(at);
+            int variable = variableAt(at);
             if (lengths[variable] > 0) {
                 return repeats(variable, from) && fits(at + 1, from + lengths[variable], slack);
             }
@@ -948,7 +954,7 @@ public final class PatternLaboratory {
             if (singles[at] > 0) {
                 return countRun(at, from, slack);
             }
-            int variable = pattern.get(at);
+            int variable = variableAt(at);
             if (lengths[variable] > 0) {
                 return repeats(variable, from) ? countFrom(at + 1, from + lengths[variable], slack) : 0;
             }

@@ -1,98 +1,7 @@
 import java.util.NoSuchElementException;
 
 /** Every promise of the document by its number: ordinary inputs, the edges, and wrong inputs. */
-public final class PromiseTest {
-    private interface Call {
-        Object answer();
-    }
-
-    private static final Class<?> ARGUMENT = IllegalArgumentException.class;
-    private static final Class<?> STATE = IllegalStateException.class;
-    private static final Class<?> INDEX = IndexOutOfBoundsException.class;
-    private static final Class<?> NONE = NoSuchElementException.class;
-    private static final Class<?> UNSUPPORTED = UnsupportedOperationException.class;
-    private static final Class<?> ARITHMETIC = ArithmeticException.class;
-
-    private static int promise = 0;
-    private static int wrong = 0;
-
-    private static void due(String what, Object want, Call call) {
-        Object got;
-        try {
-            got = call.answer();
-        } catch (RuntimeException e) {
-            got = e.getClass();
-        }
-        if (!want.equals(got)) {
-            wrong++;
-            System.out.println("promise " + promise + ": " + what + " answered " + got + ", due is " + want);
-        }
-    }
-
-    private static PatternLaboratory make(int letters, String pattern, String word) {
-        PatternLaboratory x = new PatternLaboratory();
-        x.setLetterCount(letters);
-        write(x, pattern);
-        for (char c : word.toCharArray()) {
-            x.appendLetter(c - '0');
-        }
-        return x;
-    }
-
-    private static PatternLaboratory make(String pattern, String word) {
-        return make(2, pattern, word);
-    }
-
-    private static void write(PatternLaboratory x, String pattern) {
-        x.clearPattern();
-        for (char c : pattern.toCharArray()) {
-            x.appendVariable(c - '0');
-        }
-    }
-
-    private static void images(PatternLaboratory x, String... images) {
-        for (int letter = 0; letter < images.length; letter++) {
-            x.clearImage(letter);
-            for (char c : images[letter].toCharArray()) {
-                x.appendImage(letter, c - '0');
-            }
-        }
-    }
-
-    private static String pattern(PatternLaboratory x) {
-        StringBuilder text = new StringBuilder();
-        for (int i = 0; i < x.patternLength(); i++) {
-            text.append(x.patternVariable(i));
-        }
-        return text.toString();
-    }
-
-    private static String word(PatternLaboratory x) {
-        StringBuilder text = new StringBuilder();
-        for (int i = 0; i < x.wordLength(); i++) {
-            text.append(x.letter(i));
-        }
-        return text.toString();
-    }
-
-    private static String image(PatternLaboratory x, int variable) {
-        StringBuilder text = new StringBuilder();
-        for (int i = 0; i < x.imageLength(variable); i++) {
-            text.append(x.imageLetter(variable, i));
-        }
-        return text.toString();
-    }
-
-    /** What the letters of the word become shows the morphism; the laboratory is left with another word. */
-    private static String morphism(PatternLaboratory x, int letters) {
-        StringBuilder text = new StringBuilder();
-        for (int letter = 0; letter < letters; letter++) {
-            x.iterate(letter, 1);
-            text.append(letter == 0 ? "" : ",").append(word(x));
-        }
-        return text.toString();
-    }
-
+public final class PromiseTest extends Bench {
     private static String freeSets(PatternLaboratory x) {
         StringBuilder text = new StringBuilder();
         for (int i = 0; i < x.freeSetCount(); i++) {
@@ -803,9 +712,6 @@ public final class PromiseTest {
         morphisms();
         spoiled();
         snapshots();
-        System.out.println(wrong == 0 ? "all promises are kept" : wrong + " answers are not as due");
-        if (wrong != 0) {
-            System.exit(1);
-        }
+        end("all promises are kept");
     }
 }
