@@ -886,10 +886,13 @@ public final class PatternLaboratory {
             text.become(newText);
         }
 
-        /** What stands in the pattern is an index of several rows here, and is looked at before it is used as one. */
+        /**
+         * What stands in the pattern is an index of several rows here, so it is looked at before it is used as one; the
+         * test stands here itself, because calls go deep enough already.
+         */
         private int variableAt(int at) {
-            int variable = pattern.get(at);
-            return isVariable(variable) ? variable : 0;
+            int variable = at >= 0 && at < pattern.size ? pattern.items[at] : 0;
+            return variable >= 0 && variable < VARIABLES ? variable : 0;
         }
 
         /** The start of the first occurrence, whose images stand in starts and lengths then; -1 if there is none. */

@@ -84,6 +84,22 @@ public final class BoundaryTest extends Bench {
             text.append(" shelf ").append(outcome(() -> x.useShelf(s) + ":" + pattern(x)));
         }
         text.append(" saved ").append(outcome(() -> x.restore() + ":" + desk(x)));
+        compare("the work after that", "22 0102012021 12 5 3 5 3 1 0 2 4 6", outcome(() -> work(x)));
+        return text.toString();
+    }
+
+    /** Answers that no earlier call may change, by what it has left behind in the rows that calls work with. */
+    private static String work(PatternLaboratory x) {
+        prepare(x, "3 00 -");
+        StringBuilder text = new StringBuilder();
+        text.append(x.extend(10)).append(' ').append(word(x)).append(' ').append(x.countAvoiding(3));
+        text.append(' ').append(x.longestAvoiding(5)).append(' ').append(x.strongestFactor(0));
+        text.append(' ').append(x.strongestFactor(1)).append(' ').append(x.strongestFactor(2));
+        prepare(x, "3 010 0210");
+        text.append(' ').append(x.occurrenceCount()).append(' ').append(x.findOccurrence());
+        text.append(' ').append(x.imageLength(1)).append(' ').append(x.wordLength());
+        prepare(x, "3 00 -");
+        text.append(' ').append(x.findMorphism(1, 2));
         return text.toString();
     }
 
@@ -369,6 +385,10 @@ public final class BoundaryTest extends Bench {
         strongest("4 0 0012012", 0, 2, 1);
         strongest("4 0 01233012330", 0, 11, 5);
         strongest("4 0 0101001", 0, 5, 2);
+        PatternLaboratory twice = bare("4 0 0122");
+        due("strongestFactor(0) of 0122", 2, () -> twice.strongestFactor(0));
+        prepare(twice, "4 0 0123");
+        due("strongestFactor(0) of 0123 after that", 0, () -> twice.strongestFactor(0));
     }
 
     private static void strongest(String text, int start, int length, int period) {
@@ -400,6 +420,9 @@ public final class BoundaryTest extends Bench {
         asked("occurrenceCount()", 300, "2 0 " + FULL, x -> x.occurrenceCount());
         asked("occurrenceCount()", 177100, "2 43210 " + FULL, x -> x.occurrenceCount());
         asked("occurrenceCount()", 10, "2 000000000000000 " + ZEROS, x -> x.occurrenceCount());
+        PatternLaboratory counted = bare("2 00 0000");
+        counted.findOccurrence();
+        due("occurrenceCount() counts all after one was found", 4, counted::occurrenceCount);
     }
 
     private static void finding() {
@@ -446,7 +469,8 @@ public final class BoundaryTest extends Bench {
         refusedBare("imageLetter(4, 24), none remembered", STATE, "2 0 0", x -> x.imageLetter(4, 24));
         asked("imageLetter(1, 0)", 2, "2 - -", x -> x.imageLetter(1, 0));
         asked("imageLetter(1, 1)", 1, "2 - -", x -> x.imageLetter(1, 1));
-        int[][] outside = {{1, 2}, {1, -1}, {1, MIN}, {1, MAX}, {3, 1}, {3, -1}, {0, 0}, {0, -1}, {2, 0}, {4, 0}, {4, MAX}};
+        int[][] outside = {{1, 2}, {1, -1}, {1, MIN}, {1, MAX}, {3, 1}, {3, -1}, {0, 0}, {0, -1}, {2, 0}, {4, 0},
+            {4, MAX}};
         for (int[] pair : outside) {
             refusedFurnished("imageLetter(" + pair[0] + ", " + pair[1] + ")", INDEX, "2 01 0110",
                     x -> x.imageLetter(pair[0], pair[1]));
@@ -474,6 +498,14 @@ public final class BoundaryTest extends Bench {
         asked("areConnected(4, 4), linked to itself", true, "2 44 1", x -> x.areConnected(4, 4));
         asked("areConnected(3, 4)", true, "2 34 1", x -> x.areConnected(3, 4));
         asked("areConnected(4, 3)", false, "2 34 1", x -> x.areConnected(4, 3));
+        for (int shift = 0; shift < 5; shift++) {
+            int first = shift;
+            int last = (shift + 3) % 5;
+            String chain = "2 " + renamed("012123", shift) + " 1";
+            asked("areConnected(" + first + ", " + last + "), over two more sides", true, chain,
+                    x -> x.areConnected(first, last));
+            asked("areConnected(" + last + ", " + first + ")", false, chain, x -> x.areConnected(last, first));
+        }
         asked("areConnected(4, 1), the longest chain", true, "2 010212323434 1", x -> x.areConnected(4, 1));
         promise = 30;
         int[] sets = {0, 4, 5, 7, 8, 16, 32, 33, 35, -1, MIN, MIN + 1, MAX};
@@ -504,6 +536,14 @@ public final class BoundaryTest extends Bench {
         asked("freeSet(0)", 16, "2 4 1", x -> x.freeSet(0));
         asked("freeSet(0)", 1, "2 01234 1", x -> x.freeSet(0));
         asked("freeSet(11)", 21, "2 01234 1", x -> x.freeSet(11));
+    }
+
+    private static String renamed(String pattern, int shift) {
+        StringBuilder text = new StringBuilder();
+        for (char c : pattern.toCharArray()) {
+            text.append((c - '0' + shift) % 5);
+        }
+        return text.toString();
     }
 
     private static void deleting() {
