@@ -1,6 +1,6 @@
 import java.util.NoSuchElementException;
 
-/** The examples of the document, call by call. */
+/** The examples of the document, call by call, and the one of README.md. */
 public final class ExampleTest {
     private static int wrong = 0;
 
@@ -98,12 +98,28 @@ public final class ExampleTest {
         }
     }
 
+    private static void readme() {
+        PatternLaboratory x = new PatternLaboratory();
+        due("setLetterCount(3)", x.setLetterCount(3), 2);
+        due("appendVariable(0)", x.appendVariable(0), 1);
+        due("appendVariable(0)", x.appendVariable(0), 2);
+        due("isUnavoidable()", x.isUnavoidable(), false);
+        due("extend(10)", x.extend(10), 22);
+        StringBuilder word = new StringBuilder();
+        for (int i = 0; i < x.wordLength(); i++) {
+            word.append(x.letter(i));
+        }
+        due("the word", word.toString(), "0102012021");
+        due("findMorphism(1, 2)", x.findMorphism(1, 2), 6);
+    }
+
     public static void main(String[] args) {
         square();
         zimin();
         occurrence();
         power();
         images();
+        readme();
         System.out.println(wrong == 0 ? "the examples are as due" : wrong + " answers are not as due");
         if (wrong != 0) {
             System.exit(1);

@@ -775,6 +775,88 @@ public final class OracleTest {
         compareState(x, y, where);
     }
 
+    private static List<Integer> randomRow(Random random, int length, int kinds) {
+        List<Integer> row = new ArrayList<>();
+        for (int i = 0; i < length; i++) {
+            row.add(random.nextInt(kinds));
+        }
+        return row;
+    }
+
+    private static void putPattern(PatternLaboratory x, Plain y, List<Integer> pattern, String where) {
+        compare(x, y, 3, 0, 0, 0, where);
+        for (int variable : pattern) {
+            compare(x, y, 2, variable, 0, 0, where);
+        }
+    }
+
+    /** Words made from a pattern and images: a long pattern hardly ever occurs in a word that is merely random. */
+    private static void plant(int seed) {
+        Random random = new Random(seed);
+        PatternLaboratory x = new PatternLaboratory();
+        Plain y = new Plain();
+        String where = "planting " + seed;
+        compare(x, y, 15, 2 + random.nextInt(3), 0, 0, where);
+        List<Integer> pattern = randomRow(random, 1 + random.nextInt(15), 1 + random.nextInt(5));
+        putPattern(x, y, pattern, where);
+        List<List<Integer>> images = new ArrayList<>();
+        int longest = 1 + random.nextInt(Math.max(1, 30 / pattern.size()));
+        for (int variable = 0; variable < 5; variable++) {
+            images.add(randomRow(random, 1 + random.nextInt(longest), y.k));
+        }
+        List<Integer> word = randomRow(random, random.nextInt(4), y.k);
+        word.addAll(Plain.change(pattern, images));
+        word.addAll(randomRow(random, random.nextInt(4), y.k));
+        for (int letter : word) {
+            compare(x, y, 16, letter, 0, 0, where);
+        }
+        if (!Plain.occurs(y.pattern, y.word) && word.size() <= 24) {
+            wrong++;
+            System.out.println(where + ": the second laboratory does not see what was planted");
+        }
+        int[] questions = {24, 25, 28, 22};
+        for (int promise : questions) {
+            compare(x, y, promise, 0, 0, 0, where);
+        }
+        compareState(x, y, where);
+        compare(x, y, 11, 1, 0, 0, where);
+        putPattern(x, y, Plain.change(randomRow(random, 4, 3), images), where);
+        compare(x, y, 13, 1, 0, 0, where);
+        compare(x, y, 14, 1, 0, 0, where);
+        putPattern(x, y, pattern.subList(0, Math.min(3, pattern.size())), where);
+        compare(x, y, 28, 0, 0, 0, where);
+        compare(x, y, 37, y.word.size() + (y.word.size() < 24 ? 1 : 0), 0, 0, where);
+    }
+
+    /** What the document says of unavoidable patterns in brackets: they are those that occur in the Zimin word. */
+    private static void bracket(int seed) {
+        Random random = new Random(seed);
+        PatternLaboratory x = new PatternLaboratory();
+        Plain y = new Plain();
+        String where = "bracket " + seed;
+        int variables = 1 + random.nextInt(4);
+        List<Integer> pattern = randomRow(random, 1 + random.nextInt(7), variables);
+        if (random.nextBoolean()) {
+            pattern = Plain.zimin(variables);
+            pattern = pattern.subList(random.nextInt((pattern.size() + 1) / 2), pattern.size());
+        }
+        putPattern(x, y, pattern, where);
+        if (x.isUnavoidable() != x.occursInZimin(Integer.bitCount(x.variables()))) {
+            wrong++;
+            System.out.println(where + ": " + pattern + " is unavoidable or occurs in the Zimin word, but not both");
+        }
+        int[] questions = {9, 34, 35, 31};
+        for (int promise : questions) {
+            compare(x, y, promise, 0, 0, 0, where);
+        }
+        for (int a = 0; a < 6; a++) {
+            compare(x, y, 36, a, 0, 0, where);
+            compare(x, y, 32, a, 0, 0, where);
+        }
+        compare(x, y, 33, Plain.set(pattern) & random.nextInt(32), 0, 0, where);
+        compareState(x, y, where);
+    }
+
     public static void main(String[] args) {
         int runs = args.length > 0 ? Integer.parseInt(args[0]) : 1500;
         int first = args.length > 1 ? Integer.parseInt(args[1]) : 0;
@@ -786,6 +868,8 @@ public final class OracleTest {
             if (seed % 5 == 0) {
                 examine(seed);
             }
+            plant(seed);
+            bracket(seed);
         }
         for (int promise = 2; promise <= 48; promise++) {
             if (answered[promise] == 0) {
